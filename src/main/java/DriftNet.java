@@ -223,12 +223,8 @@ public final class DriftNet {
         return now;
     }
 
-    private static boolean isBoat(int boat) {
-        return boat >= 0 && boat < BOATS;
-    }
-
     private static void needBoat(int boat) {
-        if (!isBoat(boat)) {
+        if (boat < 0 || boat >= BOATS) {
             throw new IllegalArgumentException("there is no such boat");
         }
     }

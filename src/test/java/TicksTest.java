@@ -9,6 +9,7 @@ public final class TicksTest {
         lostOnceOnly();
         offBoatsDoNotForget();
         settling();
+        settlingJustNotYet();
         meanGrows();
         meanRoundsDown();
         nearerDoesNotWait();
@@ -24,13 +25,18 @@ public final class TicksTest {
         check.end();
     }
 
-    /** Boat 2 has mean 3 for goal 0: at clock 0 it heard it over 1, and at clock 3 from 0. */
+    /** Boat 2 has mean 3 for goal 0. */
     static DriftNet settlingNet() {
+        return settlingNet(3);
+    }
+
+    /** Boat 2 has that mean for goal 0: at clock 0 it heard of it over 1, and at the clock of the mean from 0. */
+    private static DriftNet settlingNet(int mean) {
         DriftNet net = Nets.mesh(3);
         int cast = net.cast(0, true);
         net.hear(cast, 0, 1, false);
         Nets.tell(net, 1, false, 2);
-        Nets.ticks(net, 3);
+        Nets.ticks(net, mean);
         net.hear(cast, 0, 2, false);
         return net;
     }
@@ -115,6 +121,16 @@ public final class TicksTest {
         check.same("4 times 1 is less than twice 3", Nets.routes(net, 2, 0), "1 2 4 1 2 3 1");
         net.tick();
         check.same("4 times 2 is not", Nets.routes(net, 2, 0), "1 2 4 2 4 3 0");
+    }
+
+    private static void settlingJustNotYet() {
+        DriftNet net = settlingNet(5);
+        Nets.tell(net, 0, true, 1);
+        Nets.tell(net, 1, false, 2);
+        Nets.ticks(net, 2);
+        check.same("4 times 2 is less than twice 5", Nets.routes(net, 2, 0), "1 2 4 1 2 5 1");
+        net.tick();
+        check.same("4 times 3 is not", Nets.routes(net, 2, 0), "1 2 4 2 4 5 0");
     }
 
     private static void meanGrows() {
