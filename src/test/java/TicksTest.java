@@ -18,7 +18,7 @@ public final class TicksTest {
         brokenDoesNotWait();
         lostDoesNotWait();
         shownOverBroken();
-        brokenLeavesFirst();
+        firstAfterBroken();
         routeWrong();
         twos();
         circles();
@@ -256,7 +256,7 @@ public final class TicksTest {
         check.same("shown at once, though further", Nets.routes(net, 2, 0), "1 2 4 2 4 3 0");
     }
 
-    private static void brokenLeavesFirst() {
+    private static void firstAfterBroken() {
         DriftNet net = Nets.mesh(3);
         int near = net.cast(0, true);
         net.hear(near, 0, 1, false);
