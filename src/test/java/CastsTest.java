@@ -1,262 +1,281 @@
-/** Promises 5 to 8: cast, parts, entry and hear. */
+/** Promises 5 to 7, and the term CAST. What these calls refuse stands in RefusedTest. */
 public final class CastsTest {
     private static final Check check = new Check();
 
     public static void main(String[] args) {
-        castsOfOneBoat();
-        castWrong();
+        ownEntryHasCome();
+        fullGrowsByTwo();
+        fullHasAllThatItHas();
+        notFullWhatCame();
+        notFullWhatChanged();
+        notFullWhatWasLost();
+        notFullWhatWasTakenAsBroken();
+        notFullWhatWasHeardInVain();
+        eachBoatHasItsOwnLastCast();
+        refusedCastIsNoCast();
+        offBetween();
+        numbersOfCasts();
         partsOfThree();
-        onlyWhatChanged();
-        waitingIsNotTold();
+        onePartWithoutAny();
+        sizesOfParts();
+        entryAnswers();
         sixteenAreKept();
-        entryWrong();
-        hearWrong();
-        hearThrowsChangesNothing();
-        hearLate();
-        whatIsTaken();
-        brokenIsTaken();
-        hearsOnePartAlone();
+        keptOnesWrapAround();
+        keptOnesStayAsTheyWere();
         check.end();
     }
 
-    private static void castsOfOneBoat() {
-        DriftNet net = new DriftNet();
-        net.on(4);
-        check.same("first cast", net.cast(4, false), 0);
-        check.same("the own entry has come", Nets.rows(net, 0), "4:0:0");
-        check.same("second cast", net.cast(4, false), 1);
-        check.same("nothing changed", Nets.rows(net, 1), "");
-        check.same("one part without any", net.parts(1), 1);
-        check.same("full cast", net.cast(4, true), 2);
-        check.same("full has the number after", Nets.rows(net, 2), "4:2:0");
-        check.same("the number grew, also the shown one", Nets.routes(net, 4, 4), "4 0 2 0 2 0 0");
-        check.same("nothing changed since a full one", Nets.rows(net, net.cast(4, false)), "");
-        check.same("full again", Nets.rows(net, net.cast(4, true)), "4:4:0");
-        check.same("an older cast is as it was", Nets.rows(net, 2), "4:2:0");
-        net.on(5);
-        check.same("one count for all boats", net.cast(5, true), 5);
+    private static String told(DriftNet net, int boat, boolean full) {
+        return Nets.rows(net, net.cast(boat, full));
     }
 
-    private static void castWrong() {
-        DriftNet net = new DriftNet();
-        check.illegalArgument("cast of boat -1", () -> net.cast(-1, true));
-        check.illegalArgument("cast of boat 8", () -> net.cast(8, false));
-        check.illegalState("cast of an off boat", () -> net.cast(0, true));
-        check.illegalState("cast of an off boat", () -> net.cast(0, false));
-        check.same("the number has not grown", net.route(0, 0, 2), 0);
-        check.illegalArgument("no cast was made", () -> net.parts(0));
-        net.on(0);
-        check.same("the first number is free still", net.cast(0, false), 0);
-        check.same("the own entry still counts as come", Nets.rows(net, 0), "0:0:0");
-    }
-
-    private static void partsOfThree() {
-        DriftNet net = Nets.mesh(8);
-        int[] due = {1, 1, 1, 2, 2, 2, 3, 3};
-        for (int i = 0; i < 8; i++) {
-            if (i > 0) {
-                Nets.tell(net, 8 - i, false, 0);
-            }
-            check.same("parts of " + (i + 1), net.parts(net.cast(0, true)), due[i]);
-        }
-        check.same("rising goals, three a part", Nets.rows(net, 14),
-            "0:16:0 1:0:1 2:0:1|3:0:1 4:0:1 5:0:1|6:0:1 7:0:1");
-        for (int cast : new int[] {-1, 15, Integer.MIN_VALUE, Integer.MAX_VALUE}) {
-            check.illegalArgument("parts of " + cast, () -> net.parts(cast));
+    /** "(.. for itself 0 and 0 at first, which counts as come)" */
+    private static void ownEntryHasCome() {
+        for (int boat = 0; boat < 8; boat++) {
+            DriftNet net = new DriftNet();
+            net.on(boat);
+            check.same("the first", told(net, boat, false), boat + ":0:0");
+            check.same("the second", told(net, boat, false), "");
         }
     }
 
-    private static void onlyWhatChanged() {
+    /** "first the boat's number for itself, also the shown one, grows by 2" */
+    private static void fullGrowsByTwo() {
+        DriftNet net = Nets.chain(2);
+        for (int number = 2; number <= 20; number += 2) {
+            check.same("the row has the number after", told(net, 0, true), "0:" + number + ":0");
+            check.same("also the shown one", Nets.routes(net, 0, 0), "0 0 " + number + " 0 " + number + " 0 0");
+            check.same("nothing since", told(net, 0, false), "");
+            check.same("not full does not grow", net.route(0, 0, 2), number);
+        }
+        check.same("nor does another boat's", Nets.routes(net, 1, 1), "1 0 0 0 0 0 0");
+    }
+
+    /** "then all that it has are in the row": also what did not change, and what is broken. */
+    private static void fullHasAllThatItHas() {
+        DriftNet net = Nets.mesh(4);
+        Nets.tell(net, 3, true, 1);
+        Nets.tell(net, 0, true, 1);
+        check.same("all", told(net, 1, true), "0:2:1 1:2:0 3:2:1");
+        check.same("all again", told(net, 1, true), "0:2:1 1:4:0 3:2:1");
+        Nets.ticks(net, 6);
+        check.same("with the broken ones", told(net, 1, true), "0:3:-1 1:6:0 3:3:-1");
+        check.same("nothing since a full one", told(net, 1, false), "");
+    }
+
+    /** "only those whose shown entry changed (or came) since its last cast" */
+    private static void notFullWhatCame() {
         DriftNet net = Nets.mesh(4);
         net.cast(0, false);
         Nets.tell(net, 3, false, 0);
-        Nets.tell(net, 1, true, 0);
-        check.same("what came since", Nets.rows(net, net.cast(0, false)), "1:2:1 3:0:1");
-        Nets.tell(net, 1, true, 0);
-        check.same("what changed since", Nets.rows(net, net.cast(0, false)), "1:4:1");
-        check.same("nothing since", Nets.rows(net, net.cast(0, false)), "");
-        check.same("full has all", Nets.rows(net, net.cast(0, true)), "0:2:0 1:4:1 3:0:1");
-        check.same("nothing since the full one", Nets.rows(net, net.cast(0, false)), "");
+        check.same("one came", told(net, 0, false), "3:0:1");
+        Nets.tell(net, 2, false, 0);
+        Nets.tell(net, 1, false, 0);
+        check.same("two came, by rising goals", told(net, 0, false), "1:0:1 2:0:1");
+        check.same("none came", told(net, 0, false), "");
+    }
+
+    private static void notFullWhatChanged() {
+        DriftNet net = Nets.mesh(4);
+        int near = net.cast(0, true);
+        net.hear(near, 0, 1, false);
+        Nets.tell(net, 1, false, 2);
+        check.same("came", told(net, 2, false), "0:2:2 1:0:1 2:0:0");
+        net.hear(near, 0, 2, false);
+        check.same("the metric changed", told(net, 2, false), "0:2:1");
+        Nets.tell(net, 0, true, 2);
+        check.same("the number changed", told(net, 2, false), "0:4:1");
+        Nets.tell(net, 0, true, 2);
+        Nets.tell(net, 0, true, 2);
+        check.same("changed twice, told once", told(net, 2, false), "0:8:1");
+        check.same("nothing changed", told(net, 2, false), "");
+        Nets.tell(net, 0, true, 2);
+        check.same("changed, told in a full one", told(net, 2, true), "0:10:1 1:0:1 2:2:0");
+        check.same("nothing since", told(net, 2, false), "");
+    }
+
+    private static void notFullWhatWasLost() {
+        DriftNet net = Nets.mesh(3);
+        Nets.tell(net, 1, false, 0);
+        net.cast(0, false);
+        Nets.ticks(net, 5);
+        check.same("not lost yet", told(net, 0, false), "");
+        net.tick();
+        check.same("lost", told(net, 0, false), "1:1:-1");
+        Nets.ticks(net, 8);
+        check.same("once", told(net, 0, false), "");
+    }
+
+    private static void notFullWhatWasTakenAsBroken() {
+        Tales tales = new Tales();
+        tales.hear("4/1");
+        check.same("whole", told(tales.net, 7, false), "0:4:1 7:0:0");
+        tales.hear("5/B");
+        check.same("broken", told(tales.net, 7, false), "0:5:-1");
+    }
+
+    private static void notFullWhatWasHeardInVain() {
+        Tales tales = new Tales();
+        tales.hear("4/1");
+        tales.net.cast(7, false);
+        for (String name : new String[] {"4/1", "4/2", "4/3", "2/1", "3/B"}) {
+            check.same("not taken", tales.hear(name), 0);
+        }
+        check.same("nothing changed", told(tales.net, 7, false), "");
+    }
+
+    private static void eachBoatHasItsOwnLastCast() {
+        DriftNet net = Nets.mesh(3);
+        Nets.tell(net, 0, true, 1);
+        check.same("0 has cast, 1 has not", told(net, 1, false), "0:2:1 1:0:0");
+        check.same("nor has 2", told(net, 2, false), "2:0:0");
+        check.same("0 has", told(net, 0, false), "");
+    }
+
+    private static void refusedCastIsNoCast() {
+        DriftNet net = new DriftNet();
+        check.illegalState("off", () -> net.cast(0, false));
+        check.illegalState("off, full", () -> net.cast(0, true));
+        net.on(0);
+        check.same("the own entry still counts as come", told(net, 0, false), "0:0:0");
+    }
+
+    private static void offBetween() {
+        DriftNet net = Nets.mesh(2);
+        Nets.tell(net, 0, true, 1);
+        net.off(1);
+        net.on(1);
+        check.same("what came is told after off and on", told(net, 1, false), "0:2:1 1:0:0");
+        net.off(1);
+        net.on(1);
+        check.same("and not again", told(net, 1, false), "");
+    }
+
+    /** "Casts have the numbers 0, 1, .." */
+    private static void numbersOfCasts() {
+        DriftNet net = Nets.chain(8);
+        for (int i = 0; i < 100; i++) {
+            check.same("one count for all boats", net.cast(i % 8, i % 3 == 0), i);
+        }
+    }
+
+    /** Boat 0 has that many entries, and its cast has them all. */
+    private static DriftNet withEntries(int count) {
+        DriftNet net = Nets.mesh(8);
+        for (int i = 1; i < count; i++) {
+            Nets.tell(net, 8 - i, false, 0);
+        }
+        return net;
+    }
+
+    /** "it is in PARTS of three of them, the last one having what is left" */
+    private static void partsOfThree() {
+        int[] due = {1, 1, 1, 2, 2, 2, 3, 3};
+        for (int count = 1; count <= 8; count++) {
+            DriftNet net = withEntries(count);
+            check.same("parts of " + count, net.parts(net.cast(0, true)), due[count - 1]);
+            DriftNet other = withEntries(count);
+            check.same("parts of " + count + " not full", other.parts(other.cast(0, false)), due[count - 1]);
+        }
+        DriftNet net = withEntries(8);
+        check.same("by rising goals", told(net, 0, true), "0:2:0 1:0:1 2:0:1|3:0:1 4:0:1 5:0:1|6:0:1 7:0:1");
+    }
+
+    /** "(one part without any, if there are none)" */
+    private static void onePartWithoutAny() {
+        DriftNet net = Nets.chain(2);
+        net.cast(0, false);
+        int cast = net.cast(0, false);
+        check.same("one part", net.parts(cast), 1);
+        check.outOfBounds("without any", () -> net.entry(cast, 0, 0, 0));
+        check.illegalArgument("no second", () -> net.entry(cast, 1, 0, 0));
+        check.same("it can be heard", net.hear(cast, 0, 1, false), 0);
+        check.illegalArgument("no second to hear", () -> net.hear(cast, 1, 1, false));
+    }
+
+    /** "the part has no entry i" */
+    private static void sizesOfParts() {
+        for (int count = 1; count <= 8; count++) {
+            DriftNet net = withEntries(count);
+            int cast = net.cast(0, true);
+            for (int row = 0; row < 9; row++) {
+                int part = row / 3;
+                int i = row % 3;
+                String due = row < count ? "0" : part * 3 < count ? "IndexOutOfBounds" : "IllegalArgument";
+                String got = Check.answer(() -> net.entry(cast, part, i, 2) * 0);
+                check.same("row " + row + " of " + count, got.replace("throws.", "").replace("Exception", ""), due);
+            }
+        }
+    }
+
+    /** Promise 7: "what = 0: the goal, 1: the number, 2: the metric, -1 for BROKEN" */
+    private static void entryAnswers() {
+        DriftNet net = Nets.mesh(6);
+        for (int i = 1; i < 6; i++) {
+            Nets.tell(net, i, i > 2, 0);
+        }
+        int cast = net.cast(0, true);
+        int[][] due = {{0, 2, 0}, {1, 0, 1}, {2, 0, 1}, {3, 2, 1}, {4, 2, 1}, {5, 2, 1}};
+        for (int row = 0; row < 6; row++) {
+            for (int what = 0; what < 3; what++) {
+                check.same("row " + row + ", what " + what, net.entry(cast, row / 3, row % 3, what), due[row][what]);
+            }
+        }
         Nets.ticks(net, 6);
-        check.same("what was lost since", Nets.rows(net, net.cast(0, false)), "1:5:-1 3:1:-1");
-        check.same("full has the broken ones", Nets.rows(net, net.cast(0, true)), "0:4:0 1:5:-1 3:1:-1");
+        int broken = net.cast(0, false);
+        check.same("the goal of a broken one", net.entry(broken, 0, 0, 0), 1);
+        check.same("its number", net.entry(broken, 0, 0, 1), 1);
+        check.same("BROKEN", net.entry(broken, 0, 0, 2), -1);
+        check.same("the last", net.entry(broken, 1, 1, 1), 3);
     }
 
-    private static void waitingIsNotTold() {
-        DriftNet net = TicksTest.settlingNet();
-        net.cast(2, false);
-        Nets.hearAll(net, net.cast(0, true), 1);
-        Nets.hearAll(net, net.cast(1, false), 2);
-        check.same("it waits", Nets.routes(net, 2, 0), "1 2 4 1 2 3 1");
-        check.same("what waits is not told", Nets.rows(net, net.cast(2, false)), "");
-        check.same("full tells the shown one", Nets.rows(net, net.cast(2, true)), "0:2:1 1:0:1 2:2:0");
-        Nets.ticks(net, 2);
-        check.same("what waited no more is told", Nets.rows(net, net.cast(2, false)), "0:4:2");
-    }
-
+    /** "the 16 latest ones are kept" */
     private static void sixteenAreKept() {
         DriftNet net = Nets.chain(2);
         for (int i = 0; i < 16; i++) {
             net.cast(i % 2, true);
         }
-        check.same("the first of sixteen is kept", Nets.rows(net, 0), "0:2:0");
+        check.same("the first of sixteen", Nets.rows(net, 0), "0:2:0");
         net.cast(0, true);
-        check.illegalArgument("parts of one too old", () -> net.parts(0));
-        check.illegalArgument("entry of one too old", () -> net.entry(0, 0, 0, 0));
-        check.illegalArgument("hear one too old", () -> net.hear(0, 0, 1, true));
-        check.same("the oldest kept one", Nets.rows(net, 1), "1:2:0");
-        check.same("the newest one", Nets.rows(net, 16), "0:18:0");
-        check.same("hear the oldest kept one", net.hear(1, 0, 0, true), 1);
+        check.illegalArgument("parts of the first of seventeen", () -> net.parts(0));
+        check.illegalArgument("its entry", () -> net.entry(0, 0, 0, 0));
+        check.illegalArgument("to hear it", () -> net.hear(0, 0, 1, true));
+        check.same("the second of seventeen", Nets.rows(net, 1), "1:2:0");
+        check.same("the last of seventeen", Nets.rows(net, 16), "0:18:0");
+        check.same("hear the second", net.hear(1, 0, 0, true), 1);
         check.same("its sender and number", Nets.routes(net, 0, 1), "1 1 2 1 2 0 0");
     }
 
-    private static void entryWrong() {
+    private static void keptOnesWrapAround() {
+        DriftNet net = Nets.chain(1);
+        for (int cast = 0; cast < 100; cast++) {
+            check.same("cast", net.cast(0, true), cast);
+            int oldest = Math.max(0, cast - 15);
+            check.same("the oldest kept", net.entry(oldest, 0, 0, 1), 2 * oldest + 2);
+            check.same("the newest", net.entry(cast, 0, 0, 1), 2 * cast + 2);
+            int tooOld = cast - 16;
+            check.illegalArgument("too old", () -> net.parts(tooOld));
+            int next = cast + 1;
+            check.illegalArgument("not made yet", () -> net.parts(next));
+        }
+    }
+
+    private static void keptOnesStayAsTheyWere() {
         DriftNet net = Nets.mesh(5);
         for (int i = 1; i < 5; i++) {
             Nets.tell(net, i, false, 0);
         }
         int cast = net.cast(0, true);
-        check.same("goal of the last", net.entry(cast, 1, 1, 0), 4);
-        check.same("number of the first", net.entry(cast, 0, 0, 1), 2);
-        check.same("metric of the last", net.entry(cast, 1, 1, 2), 1);
-        check.outOfBounds("entry 3 of a whole part", () -> net.entry(cast, 0, 3, 0));
-        check.outOfBounds("entry 2 of the last part", () -> net.entry(cast, 1, 2, 0));
-        check.outOfBounds("entry -1", () -> net.entry(cast, 1, -1, 1));
-        check.outOfBounds("entry at the end of the numbers", () -> net.entry(cast, 1, Integer.MAX_VALUE, 1));
-        check.illegalArgument("part 2", () -> net.entry(cast, 2, 0, 0));
-        check.illegalArgument("part -1", () -> net.entry(cast, -1, 0, 0));
-        check.illegalArgument("part at the end of the numbers", () -> net.entry(cast, Integer.MAX_VALUE, 0, 0));
-        check.illegalArgument("cast -1", () -> net.entry(-1, 0, 0, 0));
-        check.illegalArgument("a cast not made yet", () -> net.entry(cast + 1, 0, 0, 0));
-        check.illegalArgument("what 3", () -> net.entry(cast, 0, 0, 3));
-        check.illegalArgument("what -1", () -> net.entry(cast, 0, 0, -1));
-        check.illegalArgument("what goes before i", () -> net.entry(cast, 0, 3, 3));
-        check.illegalArgument("part goes before i", () -> net.entry(cast, 2, 3, 0));
-        check.illegalArgument("cast goes before i", () -> net.entry(cast + 1, 0, -1, 0));
-        int empty = net.cast(0, false);
-        check.outOfBounds("an empty part", () -> net.entry(empty, 0, 0, 0));
-        check.illegalArgument("a second part of none", () -> net.entry(empty, 1, 0, 0));
-    }
-
-    private static void hearWrong() {
-        DriftNet net = Nets.chain(3);
-        int cast = net.cast(0, true);
-        check.illegalArgument("cast 1", () -> net.hear(1, 0, 1, false));
-        check.illegalArgument("cast -1", () -> net.hear(-1, 0, 1, false));
-        check.illegalArgument("part 1", () -> net.hear(cast, 1, 1, false));
-        check.illegalArgument("part -1", () -> net.hear(cast, -1, 1, false));
-        check.illegalArgument("boat 8", () -> net.hear(cast, 0, 8, false));
-        check.illegalArgument("boat -1", () -> net.hear(cast, 0, -1, true));
-        check.illegalState("the boat is off", () -> net.hear(cast, 0, 3, true));
-        check.illegalState("the boat sent it", () -> net.hear(cast, 0, 0, true));
-        check.illegalState("the boat sent it, not late", () -> net.hear(cast, 0, 0, false));
-        check.illegalState("they are not linked", () -> net.hear(cast, 0, 2, false));
-        check.illegalArgument("cast goes before off", () -> net.hear(1, 0, 3, false));
-        check.illegalArgument("part goes before off", () -> net.hear(cast, 1, 3, false));
-        check.illegalArgument("part goes before not linked", () -> net.hear(cast, 1, 2, false));
-        check.illegalArgument("part goes before sent it", () -> net.hear(cast, 1, 0, false));
-        net.link(0, 3, true);
-        check.illegalState("linked but off", () -> net.hear(cast, 0, 3, false));
-        net.link(0, 1, false);
-        check.illegalState("linked no more", () -> net.hear(cast, 0, 1, false));
-    }
-
-    private static void hearThrowsChangesNothing() {
-        DriftNet net = Nets.chain(3);
-        Nets.tell(net, 2, false, 0);
-        int cast = net.cast(0, true);
-        check.illegalState("they are not linked", () -> net.hear(cast, 0, 2, false));
-        check.same("nothing was taken", Nets.routes(net, 2, 0), "-1 -1 -1 -1 -1 0 0");
-        check.same("nor was it heard", net.two(0, 2), false);
-        net.off(2);
-        check.illegalState("it is off", () -> net.hear(cast, 0, 2, true));
-        check.same("nothing was taken when off", Nets.routes(net, 2, 0), "-1 -1 -1 -1 -1 0 0");
-        check.same("nor was it heard when off", net.two(0, 2), false);
-        net.on(2);
-        check.same("nor is there news", Nets.rows(net, net.cast(2, false)), "");
-        check.same("now it is heard", net.hear(cast, 0, 2, true), 1);
-        check.same("and they know each other", net.two(0, 2), true);
-    }
-
-    private static void hearLate() {
-        DriftNet net = Nets.chain(2);
-        int cast = net.cast(0, true);
+        String due = "0:2:0 1:0:1 2:0:1|3:0:1 4:0:1";
+        check.same("at once", Nets.rows(net, cast), due);
+        Nets.ticks(net, 6);
+        net.cast(0, true);
         net.off(0);
-        check.same("linked, the sender being off", net.hear(cast, 0, 1, false), 1);
-        check.same("again", net.hear(cast, 0, 1, false), 0);
-        net.link(0, 1, false);
-        check.same("late, not linked", net.hear(cast, 0, 1, true), 0);
-        net.on(5);
-        check.same("late, never linked", net.hear(cast, 0, 5, true), 1);
-        check.same("the sender is next", Nets.routes(net, 5, 0), "0 1 2 1 2 0 0");
-    }
-
-    private static void whatIsTaken() {
-        DriftNet net = Nets.mesh(4);
-        int old = net.cast(0, true);
-        int young = net.cast(0, true);
-        check.same("none before", net.hear(young, 0, 1, false), 1);
-        check.same("the number", net.route(1, 0, 2), 4);
-        check.same("a lesser number", net.hear(old, 0, 1, false), 0);
-        check.same("the number stays", net.route(1, 0, 2), 4);
-        int far = net.cast(1, false);
-        check.same("two goals", net.hear(far, 0, 2, false), 2);
-        check.same("one further", Nets.routes(net, 2, 0), "1 2 4 2 4 0 0");
-        check.same("the same again", net.hear(far, 0, 2, false), 0);
-        check.same("a lesser number, though nearer", net.hear(old, 0, 2, false), 0);
-        check.same("not of itself, but the sender", net.hear(far, 0, 0, false), 1);
-        check.same("its own entry stays", Nets.routes(net, 0, 0), "0 0 4 0 4 0 0");
-        int further = net.cast(2, false);
-        check.same("the same number, further", net.hear(further, 0, 1, false), 1);
-        check.same("its way stays", Nets.routes(net, 1, 0), "0 1 4 1 4 0 0");
-        check.same("three at first", net.hear(further, 0, 3, false), 3);
-        check.same("the same number, nearer, and the same as it was", net.hear(far, 0, 3, false), 2);
-        check.same("nearer over the other", Nets.routes(net, 3, 0), "1 2 4 2 4 0 0");
-        check.same("the same number, as near", Nets.tell(net, 2, true, 3), 1);
-        check.same("stays with the first", net.route(3, 0, 0), 1);
-        int youngest = net.cast(0, true);
-        net.hear(youngest, 0, 2, false);
-        Nets.tell(net, 2, false, 3);
-        check.same("a greater number from elsewhere", Nets.routes(net, 3, 0), "2 2 6 2 6 0 0");
-    }
-
-    private static void brokenIsTaken() {
-        DriftNet net = Nets.mesh(4);
-        Nets.tell(net, 0, true, 1);
-        int whole = net.cast(1, false);
-        Nets.hearAll(net, whole, 2);
-        Nets.ticks(net, 6);
-        int broken = net.cast(1, false);
-        check.same("it is broken", Nets.rows(net, broken), "0:3:-1");
-        check.same("the hearer has lost it too", Nets.routes(net, 2, 0), "-1 -1 3 -1 3 0 0");
-        check.same("broken with the same number", net.hear(broken, 0, 2, false), 0);
-        check.same("broken where there is none", net.hear(broken, 0, 3, false), 0);
-        check.same("there is none still", Nets.routes(net, 3, 0), "-1 -1 -1 -1 -1 0 0");
-        check.same("the goal itself", net.hear(broken, 0, 0, false), 0);
-        check.same("its own number stays", net.route(0, 0, 2), 2);
-        check.same("whole with a lesser number", net.hear(whole, 0, 3, true), 2);
-        check.same("broken with a greater number", net.hear(broken, 0, 3, false), 1);
-        check.same("then there is no next", Nets.routes(net, 3, 0), "-1 -1 3 -1 3 0 0");
-        check.same("it is told at once", Nets.rows(net, net.cast(3, false)), "0:3:-1 1:0:1 3:0:0");
-        check.same("whole with a number before", net.hear(whole, 0, 3, true), 0);
-        check.same("whole with a greater number", Nets.tell(net, 0, true, 3), 1);
-        check.same("broken with a lesser number", net.hear(broken, 0, 3, true), 0);
-        check.same("it is whole", Nets.routes(net, 3, 0), "0 1 4 1 4 0 0");
-        Nets.ticks(net, 6);
-        check.same("broken over broken, a greater number", Nets.tell(net, 3, false, 2), 1);
-        check.same("the number of the broken", Nets.routes(net, 2, 0), "-1 -1 5 -1 5 0 0");
-    }
-
-    private static void hearsOnePartAlone() {
-        DriftNet net = Nets.mesh(6);
-        for (int i = 1; i < 5; i++) {
-            Nets.tell(net, i, false, 0);
+        check.same("after its sender lost them and is off", Nets.rows(net, cast), due);
+        net.on(0);
+        for (int i = 0; i < 14; i++) {
+            net.cast(0, false);
         }
-        int cast = net.cast(0, false);
-        check.same("the second part", net.hear(cast, 1, 5, false), 2);
-        check.same("nothing of the first part", net.route(5, 2, 2), -1);
-        check.same("of the second", net.route(5, 3, 1), 2);
-        check.same("the first part", net.hear(cast, 0, 5, false), 3);
-        check.same("of the first", net.route(5, 2, 1), 2);
+        check.same("as the oldest kept", Nets.rows(net, cast), due);
     }
 }

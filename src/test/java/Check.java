@@ -1,3 +1,5 @@
+import java.util.function.IntSupplier;
+
 /** Counts and prints the answers that are not the ones that are due. */
 final class Check {
     interface Call {
@@ -8,15 +10,11 @@ final class Check {
     private int wrong = 0;
 
     void same(String what, long got, long due) {
-        asked++;
-        if (got != due) {
-            wrong++;
-            System.out.println(what + " answered " + got + ", due is " + due);
-        }
+        same(what, Long.toString(got), Long.toString(due));
     }
 
     void same(String what, boolean got, boolean due) {
-        same(what, got ? 1 : 0, due ? 1 : 0);
+        same(what, Boolean.toString(got), Boolean.toString(due));
     }
 
     void same(String what, String got, String due) {
@@ -39,12 +37,20 @@ final class Check {
         same(what, thrownBy(call), "IndexOutOfBoundsException");
     }
 
-    private static String thrownBy(Call call) {
+    static String thrownBy(Call call) {
         try {
             call.run();
             return "nothing thrown";
         } catch (RuntimeException e) {
             return e.getClass().getSimpleName();
+        }
+    }
+
+    static String answer(IntSupplier call) {
+        try {
+            return Integer.toString(call.getAsInt());
+        } catch (RuntimeException e) {
+            return "throws." + e.getClass().getSimpleName();
         }
     }
 

@@ -2,8 +2,9 @@ import java.lang.reflect.Array;
 import java.lang.reflect.Field;
 
 /**
- * Edges that the document names but that no run of calls can reach, because the promises keep them
- * away: a circle, a metric above 15, a packet held by its bound. The state is set from inside for them.
+ * Edges that the document names but that no run of calls can reach, because the promises keep them away (a
+ * circle, a metric above 15, a packet held by its bound, and some more). The state is set from inside for
+ * them, so this test has to be written anew when the fields of DriftNet are named otherwise.
  */
 public final class InsideTest {
     private static final Check check = new Check();
@@ -13,8 +14,13 @@ public final class InsideTest {
         circleBesideATail();
         waysToTheGoal();
         metricFifteen();
+        brokenOfTheSameNumber();
+        noneShownThoughThereIsAMean();
+        brokenLeavesFirst();
         boundHolds();
+        boundStaysWithThePacket();
         boundIsFreshForANewPacket();
+        hereWithoutEntry();
         nextWithoutEntry();
         check.end();
     }
@@ -33,12 +39,17 @@ public final class InsideTest {
         field.setInt(entry, value);
     }
 
+    private static int first(DriftNet net, int boat, int goal) throws ReflectiveOperationException {
+        return (int) field(Array.get(field(Array.get(field(net, "boats"), boat), "entries"), goal), "first");
+    }
+
     private static void next(DriftNet net, int goal, int... nexts) throws ReflectiveOperationException {
         for (int boat = 0; boat < nexts.length; boat++) {
             set(net, boat, goal, "next", nexts[boat]);
         }
     }
 
+    /** Promise 16: "the least one's circle" */
     private static void circleOfTwoAndThree() throws ReflectiveOperationException {
         DriftNet net = new DriftNet();
         next(net, 7, 4, 2, 3, 1, 0, 6, 5);
@@ -50,18 +61,21 @@ public final class InsideTest {
         check.same("another goal", net.circle(6), 0);
     }
 
+    /** "of those from which one comes back to them": not of those from which one only comes to a circle. */
     private static void circleBesideATail() throws ReflectiveOperationException {
         DriftNet net = new DriftNet();
         next(net, 7, 3, 5, 1, 2, -1, 2);
         check.same("the tail does not count", net.circle(7), 3);
     }
 
+    /** "(the goal itself aside)" */
     private static void waysToTheGoal() throws ReflectiveOperationException {
         DriftNet net = new DriftNet();
         next(net, 0, 0, 0, 1, 2, 3);
         check.same("a way that ends at the goal", net.circle(0), 0);
     }
 
+    /** "m is not above 15" */
     private static void metricFifteen() throws ReflectiveOperationException {
         DriftNet net = Nets.chain(3);
         Nets.tell(net, 0, true, 1);
@@ -77,6 +91,35 @@ public final class InsideTest {
         check.same("it is 15 still", net.route(2, 0, 1), 15);
     }
 
+    /** "or it is the same, and m (not BROKEN) is less than the entry's metric" */
+    private static void brokenOfTheSameNumber() throws ReflectiveOperationException {
+        DriftNet net = Nets.chain(3);
+        Nets.tell(net, 0, true, 1);
+        Nets.tell(net, 1, true, 2);
+        set(net, 1, 0, "shownMetric", -1);
+        check.same("the sender alone", Nets.tell(net, 1, true, 2), 1);
+        check.same("it is whole still", Nets.routes(net, 2, 0), "1 2 2 2 2 0 0");
+    }
+
+    /** "or there was no shown one" */
+    private static void noneShownThoughThereIsAMean() throws ReflectiveOperationException {
+        DriftNet net = Nets.chain(2);
+        set(net, 1, 0, "mean", 9);
+        Nets.tell(net, 0, true, 1);
+        check.same("shown at once", Nets.routes(net, 1, 0), "0 1 2 1 2 9 0");
+    }
+
+    /** "and is not BROKEN, first is the clock" */
+    private static void brokenLeavesFirst() throws ReflectiveOperationException {
+        Tales tales = new Tales();
+        tales.hear("2/1");
+        Nets.ticks(tales.net, 2);
+        tales.hear("3/B");
+        check.same("that of the whole one", first(tales.net, 7, 0), Tales.CLOCK);
+        tales.hear("4/1");
+        check.same("that of the next whole one", first(tales.net, 7, 0), Tales.CLOCK + 2);
+    }
+
     private static DriftNet movedOnce() {
         DriftNet net = Nets.chain(4);
         for (int i = 0; i < 3; i++) {
@@ -87,6 +130,7 @@ public final class InsideTest {
         return net;
     }
 
+    /** "that entry of y has not a greater number, or the same one and a lesser metric" */
     private static void boundHolds() throws ReflectiveOperationException {
         DriftNet net = movedOnce();
         set(net, 1, 0, "metric", 3);
@@ -104,6 +148,18 @@ public final class InsideTest {
         check.same("the same number, a lesser metric", net.move(0), -1);
     }
 
+    /** A packet that stays keeps the bound that it had. */
+    private static void boundStaysWithThePacket() throws ReflectiveOperationException {
+        DriftNet net = movedOnce();
+        set(net, 1, 0, "metric", 2);
+        net.off(1);
+        check.same("the next is off", net.move(0), 2);
+        net.on(1);
+        check.same("the same number and metric", net.move(0), 2);
+        set(net, 1, 0, "metric", 1);
+        check.same("a lesser metric", net.move(0), 1);
+    }
+
     private static void boundIsFreshForANewPacket() throws ReflectiveOperationException {
         DriftNet net = movedOnce();
         net.move(0);
@@ -114,6 +170,16 @@ public final class InsideTest {
         check.same("a new packet has no bound", net.move(1), 2);
     }
 
+    /** "it stays, if x has no entry for the goal" */
+    private static void hereWithoutEntry() throws ReflectiveOperationException {
+        DriftNet net = movedOnce();
+        set(net, 2, 0, "number", -1);
+        set(net, 2, 0, "metric", -1);
+        set(net, 2, 0, "next", -1);
+        check.same("no entry here", net.move(0), 2);
+    }
+
+    /** "or y has no entry for the goal" */
     private static void nextWithoutEntry() throws ReflectiveOperationException {
         DriftNet net = Nets.chain(3);
         Nets.tell(net, 1, false, 2);
