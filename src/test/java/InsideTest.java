@@ -59,6 +59,8 @@ public final class InsideTest {
         next(net, 7, 1, 2, 3, 4, 5, 6, 0);
         check.same("all but the goal", net.circle(7), 7);
         check.same("another goal", net.circle(6), 0);
+        next(net, 7, -1, 1, 3, 2, 5, 6, 4);
+        check.same("a boat that is its own next", net.circle(7), 1);
     }
 
     /** "of those from which one comes back to them": not of those from which one only comes to a circle. */

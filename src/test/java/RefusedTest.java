@@ -27,6 +27,7 @@ public final class RefusedTest {
         link();
         cast();
         parts();
+        castsOfAYoungNet();
         entry();
         entryPairs();
         hearArgument();
@@ -152,6 +153,23 @@ public final class RefusedTest {
             refused(ARGUMENT, "parts " + cast, RefusedTest::busy, net -> net.parts(cast));
         }
         refused(ARGUMENT, "parts of a cast not made yet", DriftNet::new, net -> net.parts(0));
+    }
+
+    /** A net that has made so few casts that none is too old. */
+    private static DriftNet young() {
+        DriftNet net = Nets.chain(3);
+        net.cast(0, true);
+        net.cast(1, true);
+        return net;
+    }
+
+    /** "there is no such .. cast": none before the first either, where a row for it is kept free. */
+    private static void castsOfAYoungNet() {
+        for (int cast : new int[] {-1, -2, -14, -15, -16, 2, 3, 15, 16, Integer.MIN_VALUE, Integer.MAX_VALUE}) {
+            refused(ARGUMENT, "parts " + cast, RefusedTest::young, net -> net.parts(cast));
+            refused(ARGUMENT, "entry of " + cast, RefusedTest::young, net -> net.entry(cast, 0, 0, 0));
+            refused(ARGUMENT, "hear " + cast, RefusedTest::young, net -> net.hear(cast, 0, 2, true));
+        }
     }
 
     /** Promise 7: "Illegal argument: also if what is none of these; index out of bounds: the part has no entry i." */
