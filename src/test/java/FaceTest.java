@@ -37,12 +37,15 @@ public final class FaceTest {
     private static final String[] BANNED = {
         "import", "package", "->", "::", "\\bfinally\\b", "\\bsynchronized\\b", "\\bassert\\b", "\\btry\\b",
         "\\bprotected\\b", "\\bSystem\\.(?!arraycopy)", "\\bThread\\b", "\\bRandom\\b", "Exact\\(", "while \\(true\\)",
+        "\\bstatic \\{", "\\bvar\\b", "\" \\+", "\\+ \"", "\\bcatch\\b", "\\bequals\\b",
+        "\\bhashCode\\b", "\\btoString\\b", "\\bMath\\.(?!floorMod|min)",
     };
 
     public static void main(String[] args) throws IOException {
         face();
         nothingElseIsVisible();
         classesInside();
+        sizes();
         words();
         check.end();
     }
@@ -117,6 +120,34 @@ public final class FaceTest {
         int modifiers = field.getModifiers();
         check.same(field.getName() + " is no static state",
             Modifier.isStatic(modifiers) && !Modifier.isFinal(modifiers), false);
+    }
+
+    /** Rule 11: at most seven parameters, some twenty fields beside constants, methods of some sixty lines. */
+    private static void sizes() throws IOException {
+        List<Class<?>> all = new ArrayList<>(List.of(DriftNet.class.getDeclaredClasses()));
+        all.add(DriftNet.class);
+        for (Class<?> one : all) {
+            int fields = 0;
+            for (Field field : one.getDeclaredFields()) {
+                fields += Modifier.isStatic(field.getModifiers()) ? 0 : 1;
+            }
+            check.same(one.getName() + " has few fields", fields <= 20, true);
+            for (Method method : one.getDeclaredMethods()) {
+                check.same(method.getName() + " takes few parameters", method.getParameterCount() <= 7, true);
+            }
+        }
+        check.same("the longest method is short", longestMethod() <= 60, true);
+    }
+
+    /** The file has an empty line between methods and none in them, so the longest run of lines is at least as long as any. */
+    private static int longestMethod() throws IOException {
+        int longest = 0;
+        int run = 0;
+        for (String line : Files.readAllLines(Path.of("src/main/java/DriftNet.java"))) {
+            run = line.isBlank() ? 0 : run + 1;
+            longest = Math.max(longest, run);
+        }
+        return longest;
     }
 
     private static void words() throws IOException {
